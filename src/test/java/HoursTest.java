@@ -13,6 +13,7 @@ public final class HoursTest {
         tangledOnes();
         homes();
         summaries();
+        askedAhead();
         refusals();
         is.end();
     }
@@ -188,6 +189,15 @@ public final class HoursTest {
         x = Answers.told("n40;n91;n21", "", "a0;c0;c1;d1;d2");
         is.due("a flick of a tangled one is made", x.missed(), 1);
         row("and does nothing", x, 1, 1, "001111112");
+        // Reel 1 is held at 2, goes on to 4 in hour 5, and meets the one on its other side there.
+        x = Answers.told("n40;n91;n62", "", "a0;c0;c1;a2;f2");
+        row("tangled again as soon as it goes", x, 1, 0, "002224446");
+        row("tangled again as soon as it goes", x, 1, 3, "001101100");
+        row("with another one", x, 2, 3, "000001100");
+        x = Answers.told("n62;n91;n40", "", "a2;c2;c1;a0;f0");
+        row("tangled again, on the other side", x, 1, 0, "002224446");
+        row("tangled again, on the other side", x, 1, 3, "001101100");
+        row("with another one", x, 0, 3, "000001100");
         x = Answers.told("n40;n91", "", "a0;c0;c1;e0;g0");
         row("up in hour 5, down again in hour 6", x, 0, 0, "242220244");
     }
@@ -203,6 +213,11 @@ public final class HoursTest {
         is.due("home by the neighbours", x.home(0, 0), 1);
         x = Answers.told("n20", "", "w0;x0");
         is.due("home in the last hour", x.home(0, 0), 23);
+        is.due("deepest in the last hours", x.home(0, 1), 2);
+        x = Answers.told("n20", "", "x0");
+        is.due("deepest in the last hour", x.home(0, 1), 2);
+        x = Answers.told("n10", "", "a0;b0");
+        is.due("deepest in hour 0", x.home(0, 1), 1);
         x = Answers.told("n90", "", "a0");
         x.event(0, 3, 0);
         is.due("gone is not home", x.home(0, 0), StringReels.NONE);
@@ -220,6 +235,10 @@ public final class HoursTest {
         x = Answers.told("n90;w10;n20;n92", "", "a0;x2");
         is.due("busy at once", x.busy(), 0);
         is.due("lost: stuck alone", x.lost(), 0);
+        x = Answers.told("n10;n21", "", "a0;b0;b1;c1;x0;x1");
+        is.due("busy in the last hour", x.busy(), 23);
+        x = Answers.told("n10", "", "b0;c0");
+        is.due("busy in hour 1", x.busy(), 1);
         x = Answers.told("w10;w10", "9", "a0;a1");
         is.due("stuck ones hold each other", x.lost(), 3);
         x.event(0, 23, 1);
@@ -230,6 +249,36 @@ public final class HoursTest {
         is.due("one that is gone is", x.lost(), 2);
         is.due("cuts undone", x.back(), 0);
         is.due("cuts undone", x.lost(), 0);
+    }
+
+    /** What was asked of an earlier day does not come into a later one. */
+    private static void askedAhead() {
+        StringReels x = Answers.told("n90;n91", "", "o0");
+        is.due("asleep in the last hours", x.at(23, 0, 2), 4);
+        is.due("missed", x.missed(), 0);
+        Answers.type(x, 2, ";o0;o1");
+        is.due("flicks more", x.missed(), 1);
+        is.due("flicks more", x.at(23, 1, 2), 4);
+        x.wipe(2);
+        is.due("no flicks", x.missed(), 0);
+        row("no flicks", x, 0, 1, "000000000000000000000000");
+        row("no flicks", x, 0, 2, "000000000000000000000000");
+        x = Answers.told("n40;n91", "", "t0;v0;v1");
+        is.due("tangled in hour 21", x.knot(0), 21);
+        is.due("tangled in hour 21", x.at(22, 0, 3), 1);
+        x.wipe(2);
+        Answers.type(x, 2, "a0");
+        row("free in an earlier hour", x, 0, 0, "244444");
+        row("free in an earlier hour", x, 0, 3, "000000");
+        is.due("no knot", x.knot(0), StringReels.NONE);
+        x.event(0, 1, 0);
+        row("a cut more", x, 0, 0, "222222");
+        x.back();
+        row("a cut less", x, 0, 0, "244444");
+        x.undo(0);
+        is.due("a fault", x.at(0, 0, 0), StringReels.BAD);
+        Answers.type(x, 0, "0");
+        row("well again", x, 0, 0, "244444");
     }
 
     private static void refusals() {

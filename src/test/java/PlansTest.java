@@ -22,6 +22,8 @@ public final class PlansTest {
         soon("the least of like ones", Answers.told("n40", "", "a0;c0"), 0, 0, 3);
         soon("by the neighbours", Answers.told("w10;n11", "", ""), 0, 0, 1);
         soon("behind all others", Answers.told("n20;w10;n30", "", "a2"), 1, 1, 2);
+        // Sooner ones are missed in hours 0, 21 and 22, and leave it stuck beside reel 1 in others.
+        soon("in the last hour", Answers.told("d20;n90", "", "a1;v1;w0"), 0, 23, 23);
         soon("sooner than it was", Answers.told("n40", "", "a0;f0"), 0, 2, 3);
         String many = "a0;a7;a7;a7;a7;a7;a7;a7;a7;a7;a7;a7;a7;a7;a7;a7";
         StringReels x = Answers.told("n40", "", many);
@@ -49,6 +51,7 @@ public final class PlansTest {
         is.due("its hand is as it was", x.reel(0, 2), 0);
         is.due("missed as it was", x.missed(), 2);
         give("the last hand", Answers.told("n10;n11;n12;n13;n14;n15;n16;n10", "", "a0;a1;a2;a3;a4;a5;a6;a7"), 7, 7, 0);
+        give("in the last hour", Answers.told("n10;n10", "", "x0;x1"), 1, 1, 0);
         give("a quick hand with others", Answers.told("n10;n11;n11", "12", "a0;a1;a1;a0"), 0, 0, 1);
     }
 
@@ -60,6 +63,10 @@ public final class PlansTest {
     private static void spool() {
         spool("lost whatever", Answers.told("w90", "", "a0"), 0, 1, 1);
         spool("long enough to sleep yet", Answers.told("w10", "", "a0;c0"), 0, 3, 0);
+        StringReels late = Answers.told("n10;n11;n12", "", "a1");
+        late.event(0, 23, 1);
+        spool("up when it is cut", late, 1, 1, 0);
+        spool("still away when it is cut", Answers.told("w10", "", "x0"), 0, 2, 0);
         spool("never away", Answers.told("w90", "", ""), 0, 1, 0);
         StringReels x = Answers.told("n90;n91", "", "a1");
         x.event(0, 1, 1);

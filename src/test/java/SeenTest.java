@@ -46,6 +46,16 @@ public final class SeenTest {
         is.due("not the first cut", x.never(), 6);
         x.seen(0, 1, 0);
         is.due("of a reel that there is not", x.never(), 0);
+        x = Answers.told("n90;n91", "", "v0;v1");
+        x.event(0, 23, 1);
+        x.event(0, 23, 0);
+        x.seen(23, 1, 6);
+        is.due("of reel 1 in the last hour", x.never(), 1);
+        x.seen(23, 0, 6);
+        is.due("of both in the last hour", x.never(), 0);
+        x.forget();
+        x.seen(23, 0, 6);
+        is.due("of reel 0 in the last hour", x.never(), 2);
     }
 
     private static void sorts() {
@@ -68,6 +78,12 @@ public final class SeenTest {
         x.forget();
         x.seen(0, 2, 0);
         is.due("of a reel that there is not", x.was(0, 0), 0);
+        x = Answers.told("n11;n20", "", "v1");
+        x.seen(23, 1, 1);
+        is.due("worn or damp, by the last hour", x.was(1, 0), 6);
+        x.forget();
+        x.seen(23, 1, 2);
+        is.due("not yet up in the last hour", x.was(1, 0), 1);
     }
 
     private static void spans() {
@@ -98,6 +114,10 @@ public final class SeenTest {
         is.due("2 on", x.was(0, 1), 1020);
         // Behind hours 0 to 6 all eight are alike; 11 is the first that sets all of them apart.
         is.due("ask of 2 on", x.ask(0), 11);
+        x = Answers.told("n60", "", "x0");
+        is.due("ask of the last hour", x.ask(0), 23);
+        x.seen(23, 0, 1);
+        is.due("1, by the last hour", x.was(0, 1), 2);
     }
 
     private static void chance(String name, StringReels x, int c, int hour, long above, long below) {
@@ -136,6 +156,17 @@ public final class SeenTest {
         x.event(1, 4, 0);
         chance("both damps", x, 8, 7, 3, 4);
         chance("events are as they were", x, 16, 7, 0, 1);
+        chance("an event more: ahead", x, 8, 7, 3, 4);
+        x.event(0, 6, 0);
+        chance("an event more", x, 8, 7, 3, 8);
+        x.back();
+        chance("an event less", x, 8, 7, 3, 4);
+        chance("another hour", x, 8, 5, 0, 1);
+        x.undo(2);
+        Answers.type(x, 2, "1");
+        chance("another flick", x, 8, 7, 0, 1);
+        x.undo(2);
+        Answers.type(x, 2, "0");
         is.due("today is as it was", x.at(7, 0, 1), 4);
     }
 

@@ -117,6 +117,14 @@ public final class TextsTest {
         for (int text = 0; text < 3; text++) {
             x.undo(text);
         }
+        StringReels y = Answers.told("n97", "29", "c0");
+        for (int text = 0; text < 3; text++) {
+            y.wipe(text);
+            is.due("wiped: count " + text, y.count(text), 0);
+        }
+        is.due("wiped: reel", y.reel(0, 0), StringReels.BAD);
+        is.due("wiped: hand", y.hand(0), 1);
+        is.due("wiped: flick", y.flick(0, 0), StringReels.NONE);
         is.due("well again: reels", x.count(0), 1);
         is.due("well again: hand", x.hand(1), 9);
         is.due("well again: flick", x.flick(0, 0), 2);
@@ -204,6 +212,7 @@ public final class TextsTest {
         lay(x, 0, 2, 0, 1);
         is.due("read of less than one", x.read(0), 0);
         lay(x, 0, 0, 0, 1, 0, 1, 23, 7, 0, 0);
+        is.due("ahead of the cut", x.at(1, 0, 1), 2);
         is.due("read of two and a bit", x.read(0), 2);
         is.due("the cut that was read is done", x.at(1, 0, 1), 5);
         is.due("a damp that was read is behind it", x.back(), 1);
