@@ -18,7 +18,33 @@ public final class DigestTest {
         x.sheet(0, 0, -1);
         check("a finding", x);
         is.due("the finding is as it was", x.count(8), 5);
+        tellingOnes();
         is.end();
+    }
+
+    /** Cities of which each answer is unlike those beside it: another HOUR, c or number would be another digest. */
+    private static void tellingOnes() {
+        StringReels x = Answers.told("n10;n40;n92", "", "a1;c1;c2");
+        is.holds("the knot's hour is not its reel", x.knot(0) != x.knot(1));
+        check("a knot", x);
+        x = Answers.told("n20;n21", "", "a0;b1;c0;d1");
+        for (int hour : new int[] {1, 2, 2, 1}) {
+            x.event(1, hour, 0);
+        }
+        is.holds("the first spared is not the second, nor how many", x.spare(0) == 0 && x.spare(1) == 3);
+        check("two spared", x);
+        x = Answers.told("n10", "", "l0;m0;n0");
+        x.event(0, 12, 0);
+        is.due("up behind 12 alone", x.chance(5, 0, 12, 0), 11);
+        is.due("not behind 11", x.chance(5, 0, 11, 0), 0);
+        is.due("not behind 13", x.chance(5, 0, 13, 0), 0);
+        check("up behind 12 alone", x);
+        for (String reels : new String[] {"n51;d37", "n21;d93;d65;d92;n32;w94;w67"}) {
+            x = Answers.told(reels, "", "");
+            is.holds("eleven flicks are another day", x.days(7, 11, 0) != x.days(7, 12, 0));
+            check("days", x);
+        }
+        is.holds("thirteen flicks are another day", x.days(7, 13, 0) != x.days(7, 12, 0));
     }
 
     private static void add(long... answers) {
