@@ -12,6 +12,8 @@ public final class StringReels {
     private static final int NULL = 1, INDEX = 2, CAST = 3, STORE = 4, SIZE = 5;
     private static final int REEL_TEXT = 0, HAND_TEXT = 1, FLICK_TEXT = 2, TEXTS = 3;
     private static final int SIXTEENTHS = 16, NOTHING = 0;
+    private static final int LEAST_INT = 1 << 31;
+    private static final long LEAST_LONG = 1L << 63;
     private static final int[] TOLD_HOURS = {0, 5, 11, 23};
 
     private final Text[] texts = new Text[TEXTS];
@@ -283,7 +285,7 @@ public final class StringReels {
 
     public long chance(int c, int reel, int hour, int what) {
         if (c < 0 || c > SIXTEENTHS || !isReel(reel) || !isHour(hour) || !isFirstOrSecond(what)) {
-            return Long.MIN_VALUE - BAD;
+            return LEAST_LONG - BAD;
         }
         weigh(c, hour);
         long above = upWeights[reel];
@@ -344,12 +346,12 @@ public final class StringReels {
 
     public int get(int s, int form, int i) {
         if (!isSheet(s) || !isForm(form)) {
-            return Integer.MIN_VALUE;
+            return LEAST_INT;
         }
         int wrong = wrongItem(sheets[s], form, i);
         if (wrong != 0) {
             find(wrong);
-            return Integer.MIN_VALUE;
+            return LEAST_INT;
         }
         return sheets[s].items[i];
     }

@@ -8,7 +8,9 @@ import java.nio.file.Files;
 import java.nio.file.Path;
 import java.util.ArrayList;
 import java.util.List;
+import java.util.Map;
 import java.util.Set;
+import java.util.TreeMap;
 import java.util.TreeSet;
 import java.util.regex.Matcher;
 import java.util.regex.Pattern;
@@ -24,6 +26,7 @@ public final class LanguageTest {
         nested();
         words();
         methods();
+        depth();
         rows();
         is.end();
     }
@@ -100,8 +103,8 @@ public final class LanguageTest {
         is.due("imports", source.split("\\bimport\\b", -1).length - 1, 1);
         is.holds("import of Arrays", source.contains("import java.util.Arrays;"));
         Matcher m = Pattern.compile("\\b(Arrays|Math|Integer|Long|System)\\.(\\w+)").matcher(source);
-        Set<String> known = Set.of("Arrays.fill", "Math.max", "Math.min", "Integer.bitCount", "Integer.MIN_VALUE",
-            "Long.MIN_VALUE", "System.arraycopy");
+        // Functions alone: rule 4 lists no constants of Integer and Long.
+        Set<String> known = Set.of("Arrays.fill", "Math.max", "Math.min", "Integer.bitCount", "System.arraycopy");
         while (m.find()) {
             is.holds(m.group() + " is of the library's part", known.contains(m.group()));
         }
@@ -120,6 +123,29 @@ public final class LanguageTest {
             is.holds("short: " + lines[i].trim(), end - i < 60);
         }
         is.holds("methods are found", count > 80);
+    }
+
+    /** Calls go eight deep at most, and none goes in a ring; methods of one name are taken together. */
+    private static void depth() throws IOException {
+        Map<String, Set<String>> calls = new TreeMap<>();
+        Matcher m = Pattern.compile("(?ms)^( +)(?:public|private)[^=;{]*?(\\w+)\\([^)]*\\) \\{$(.*?)^\\1\\}$").matcher(bare());
+        while (m.find()) {
+            Matcher called = Pattern.compile("(\\w+)\\(").matcher(m.group(3));
+            Set<String> names = calls.computeIfAbsent(m.group(2), name -> new TreeSet<>());
+            while (called.find()) names.add(called.group(1));
+        }
+        is.holds("calls are found", calls.size() > 80 && calls.get("digest").contains("spare"));
+        for (String name : calls.keySet()) {
+            is.holds("eight deep at most: " + name, depthOf(name, calls, 0) <= 8);
+        }
+    }
+
+    private static int depthOf(String name, Map<String, Set<String>> calls, int open) {
+        int most = 0;
+        for (String called : calls.get(name)) {
+            if (calls.containsKey(called) && open < 20) most = Math.max(most, depthOf(called, calls, open + 1));
+        }
+        return most + 1;
     }
 
     /** No call makes a row: all are made where an object is. */

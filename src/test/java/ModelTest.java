@@ -6,6 +6,7 @@ public final class ModelTest {
     private final Random random;
     private final StringReels x = new StringReels();
     private final Model m = new Model();
+    private boolean knotted;
 
     private ModelTest(int seed) {
         random = new Random(seed);
@@ -13,15 +14,19 @@ public final class ModelTest {
 
     public static void main(String[] args) {
         Answers all = new Answers();
+        int knots = 0;
         for (int seed = 0; seed < RUNS; seed++) {
             ModelTest t = new ModelTest(seed);
-            all.holds("run of seed " + seed + " answers as the model", t.run());
+            all.holds("run of seed " + seed + " answers as the model", t.run(seed % 3 == 0));
+            knots += t.knotted ? 1 : 0;
         }
+        all.holds("many runs have a tangle: " + knots, knots > RUNS / 4);
         all.end();
     }
 
-    private boolean run() {
-        boolean right = tellCity();
+    private boolean run(boolean crossing) {
+        boolean right = crossing ? tellCrossing() : tellCity();
+        knotted = m.knot(0) >= 0;
         for (int i = 0; i < CALLS && right; i++) {
             right = call();
         }
@@ -61,6 +66,23 @@ public final class ModelTest {
             flicks.append(i == 0 ? "" : ";").append((char) ('a' + n(hours))).append(n(n(9) == 0 || count == 0 ? 8 : count));
         }
         return typeAll(0, reels) && typeAll(1, hands) && typeAll(2, flicks);
+    }
+
+    /** Two REELS beside each other that meet, one on its way up, among others: by chance alone hardly any do. */
+    private boolean tellCrossing() {
+        int count = 2 + n(7), riser = n(count), sinker = riser == 0 ? 1 : riser == count - 1 || n(2) == 0 ? riser - 1 : riser + 1;
+        int half = 2 + n(3), meet = 1 + n(half - 1), down = n(4), up = down + half + n(half);
+        // Behind HOUR up + (half - 1 - meet) both are as DEEP as 2 meet.
+        int sink = up + half - 2 * meet;
+        StringBuilder reels = new StringBuilder(), flicks = new StringBuilder();
+        for (int i = 0; i < count; i++) {
+            reels.append(i == 0 ? "" : ";").append(i == riser ? 'n' : "nnwd".charAt(n(4)));
+            reels.append(i == riser ? 2 * half : i == sinker ? 2 * meet + 1 + n(9 - 2 * meet) : 1 + n(9)).append(n(8));
+        }
+        flicks.append((char) ('a' + down)).append(riser).append(';').append((char) ('a' + up)).append(riser);
+        flicks.append(';').append((char) ('a' + sink)).append(sinker);
+        for (int i = n(14); i > 0; i--) flicks.append(';').append((char) ('a' + n(24))).append(n(count));
+        return typeAll(0, reels) && typeAll(1, "22222222") && typeAll(2, flicks);
     }
 
     private boolean typeAll(int text, CharSequence bytes) {
